@@ -34,6 +34,7 @@ public final class PromisesTest {
         breaks();
         score();
         refusalsChangeNothing();
+        atFullSize();
         check.end();
     }
 
@@ -456,6 +457,8 @@ public final class PromisesTest {
         y.rule(0, 0, 0, 1, 1);
         y.worth(0, 0, 1);
         due("what does not stand is not looked at", y.fixed(1), 1);
+        due("two plans", of(2).fixed(0), NONE);
+        due("one plan", of(1).fixed(0), 0);
     }
 
     private static WhyNots pairs() {
@@ -607,6 +610,10 @@ public final class PromisesTest {
         x.rule(0, 0, 0, 0, 1000);
         due("none stands", x.needs(0, 0), 14);
         wrongPairs(x, "needs");
+        WhyNots y = of(2, 2);
+        y.rule(0, 1, 0, 1, 9);
+        y.rule(0, 1, 0, 2, 4);
+        due("the cheaper one, though its number is greater", y.needs(0, 0), 2);
     }
 
     private static void clash() {
@@ -747,6 +754,13 @@ public final class PromisesTest {
         x.mode(1, 0);
         due("none stands, of an OFF one", x.price(1), NO);
         due("none stands, unknown", x.price(3), UNKNOWN);
+        WhyNots y = of(2);
+        y.worth(0, 1, 10);
+        y.rule(0, 0, 0, 1, 1);
+        y.rule(0, 0, 0, 1, 3);
+        y.mode(1, 2);
+        due("a SOFT one costs still", y.price(0), 7);
+        due("a HARD one binds still", y.price(1), 0);
     }
 
     private static void breaks() {
@@ -834,6 +848,41 @@ public final class PromisesTest {
         for (int i = 0; i < before.length; i++) {
             due("state " + i, after[i], before[i]);
         }
+    }
+
+    private static void atFullSize() {
+        promise = "all choices, candidates and rules that there can be";
+        WhyNots x = of(6, 6, 6, 6, 6);
+        for (int c = 0; c < 5; c++) {
+            worths(x, c, 0, 1, 2, 3, 4, 5);
+        }
+        for (int r = 0; r < 12; r++) {
+            due("rule " + r, x.rule(6, r % 6, 0, 1, 1 + r), r);
+        }
+        counts(x, 5, 12, 7776, 720, 120, 0, 1);
+        due("best()", x.best(), 15);
+        due("pick(0)", x.pick(0), 1);
+        due("pick(4)", x.pick(4), 5);
+        due("fixed(0)", x.fixed(0), NONE);
+        due("force(4, 0)", x.force(4, 0), 14);
+        due("forced(4, 0, 0)", x.forced(4, 0, 0), 2);
+        due("avoid(0, 1)", x.avoid(0, 1), 15);
+        due("raise(4, 1)", x.raise(4, 1), 1);
+        due("lower(0, 1)", x.lower(0, 1), 1);
+        due("price(5)", x.price(5), 0);
+        due("the last plan breaks", x.breaks(5, 5, 5, 5, 5), 2080);
+        due("its score", x.score(5, 5, 5, 5, 5), 25);
+        due("worth(4, 5, 100)", x.worth(4, 5, 100), 5);
+        due("best()", x.best(), 110);
+        due("fixed(4)", x.fixed(4), 5);
+        x.weigh(11, 1000);
+        due("cost(4095)", x.cost(4095), 66 + 1000);
+        x.mode(5, 2);
+        x.mode(11, 2);
+        due("SOFT", x.best(), 110);
+        due("its score", x.score(5, 5, 5, 5, 5), 120 - 1006);
+        due("needs(0, 0)", x.needs(0, 0), 0);
+        due("clash()", x.clash(), 0);
     }
 
     private static int[] state(WhyNots x) {
