@@ -33,7 +33,6 @@ public final class PromisesTest {
         price();
         breaks();
         score();
-        refusalsChangeNothing();
         atFullSize();
         check.end();
     }
@@ -43,17 +42,11 @@ public final class PromisesTest {
     }
 
     private static WhyNots of(int... candidates) {
-        WhyNots x = new WhyNots();
-        for (int many : candidates) {
-            x.choice(many);
-        }
-        return x;
+        return Build.of(candidates);
     }
 
     private static void worths(WhyNots x, int choice, int... worths) {
-        for (int k = 0; k < worths.length; k++) {
-            x.worth(choice, k, worths[k]);
-        }
+        Build.worths(x, choice, worths);
     }
 
     private static void newObject() {
@@ -824,32 +817,6 @@ public final class PromisesTest {
         due("the last one", y.score(0, 0, 0, 0, 2), UNKNOWN);
     }
 
-    private static void refusalsChangeNothing() {
-        promise = "what is refused changes nothing";
-        WhyNots x = pairs();
-        x.rule(0, 0, 0, 5, 8);
-        x.mode(1, 2);
-        int[] before = state(x);
-        x.choice(0);
-        x.choice(7);
-        x.worth(0, 0, 1001);
-        x.worth(0, 3, 1);
-        x.worth(2, 0, 1);
-        x.rule(9, 0, 1, 0, 1);
-        x.rule(1, 0, 0, 0, 1);
-        x.rule(1, 0, 2, 0, 1);
-        x.rule(8, 3, 2, 0, 1);
-        x.rule(1, 0, 1, 0, 1001);
-        x.mode(0, 3);
-        x.mode(2, 0);
-        x.weigh(0, 1001);
-        x.weigh(2, 1);
-        int[] after = state(x);
-        for (int i = 0; i < before.length; i++) {
-            due("state " + i, after[i], before[i]);
-        }
-    }
-
     private static void atFullSize() {
         promise = "all choices, candidates and rules that there can be";
         WhyNots x = of(6, 6, 6, 6, 6);
@@ -883,11 +850,5 @@ public final class PromisesTest {
         due("its score", x.score(5, 5, 5, 5, 5), 120 - 1006);
         due("needs(0, 0)", x.needs(0, 0), 0);
         due("clash()", x.clash(), 0);
-    }
-
-    private static int[] state(WhyNots x) {
-        return new int[] {x.count(0), x.count(1), x.count(2), x.count(3), x.count(4), x.count(5), x.count(6),
-            x.best(), x.pick(0), x.pick(1), x.cost(3), x.told(0, 4), x.told(0, 5), x.told(1, 4), x.told(1, 5),
-            x.score(0, 0, 0, 0, 0), x.score(1, 2, 0, 0, 0), x.breaks(1, 1, 0, 0, 0), x.price(0), x.price(1)};
     }
 }
