@@ -4,7 +4,9 @@ import java.lang.reflect.Method;
 import java.lang.reflect.Modifier;
 import java.nio.file.Files;
 import java.nio.file.Path;
+import java.util.Set;
 import java.util.TreeSet;
+import java.util.regex.Matcher;
 import java.util.regex.Pattern;
 
 /** The public face is the document's and no more, and the file keeps to the rules of LANGUAGE.md that can be read off. */
@@ -19,7 +21,10 @@ public final class FaceTest {
         constants();
         methods();
         classesInside();
-        source(Files.readString(Path.of("src/main/java/WhyNots.java")));
+        String text = Files.readString(Path.of("src/main/java/WhyNots.java"));
+        source(text);
+        library(text);
+        lengths(text);
         check.end();
     }
 
@@ -65,9 +70,41 @@ public final class FaceTest {
     }
 
     private static void classesInside() {
-        for (Class<?> inside : WhyNots.class.getDeclaredClasses()) {
+        Class<?>[] all = WhyNots.class.getDeclaredClasses();
+        check.holds("twelve classes at most", all.length < 12);
+        sizes(WhyNots.class);
+        for (Class<?> inside : all) {
             check.holds(inside.getName() + " is static and not public", Modifier.isStatic(inside.getModifiers())
                     && !Modifier.isPublic(inside.getModifiers()) && !Modifier.isProtected(inside.getModifiers()));
+            sizes(inside);
+            for (Method method : inside.getDeclaredMethods()) {
+                check.holds(method.getName() + " is no public name", !isPublicName(method.getName()));
+            }
+        }
+    }
+
+    private static boolean isPublicName(String name) {
+        for (String one : METHODS) {
+            if (one.startsWith(name + "/")) {
+                return true;
+            }
+        }
+        return false;
+    }
+
+    private static void sizes(Class<?> one) {
+        int fields = 0;
+        for (Field field : one.getDeclaredFields()) {
+            boolean isConstant = Modifier.isStatic(field.getModifiers());
+            fields += isConstant ? 0 : 1;
+            check.holds(field.getName() + " of " + one.getName() + " is final, if static",
+                    !isConstant || Modifier.isFinal(field.getModifiers()));
+            check.holds(field.getName() + " of " + one.getName() + " is a number, if static",
+                    !isConstant || field.getType() == int.class);
+        }
+        check.holds(one.getName() + " has twenty fields at most", fields <= 20);
+        for (Method method : one.getDeclaredMethods()) {
+            check.holds(method.getName() + " takes seven at most", method.getParameterCount() <= 7);
         }
     }
 
@@ -82,6 +119,34 @@ public final class FaceTest {
         for (String line : code.split("\n")) {
             check.holds("made with the object: " + line.trim(), !line.contains("new ")
                     || line.matches("\\s*(private )?final \\S+ \\w+ = new .*;"));
+        }
+    }
+
+    /** Rule 4: of the library nothing but the functions over numbers that it lists; rule 3: only Latin texts. */
+    private static void library(String text) {
+        Set<String> listed = Set.of("Math.abs", "Math.max", "Integer.bitCount");
+        Matcher calls = Pattern.compile("\\b([A-Z]\\w*\\.\\w+)\\(").matcher(text);
+        while (calls.find()) {
+            check.holds(calls.group(1) + " is listed", listed.contains(calls.group(1)));
+        }
+        check.holds("no outside name", !Pattern.compile("\\b(java|javax|sun|System|Object|String)\\b").matcher(text).find());
+        check.holds("no array of arrays", !text.contains("[][]"));
+        check.holds("characters 0 to 255 alone", text.chars().allMatch(c -> c < 256));
+    }
+
+    /** Rule 11: methods stay short. A method's head stands as deep as the brace that ends it. */
+    private static void lengths(String text) {
+        String[] lines = text.split("\n");
+        for (int head = 0; head < lines.length; head++) {
+            if (!lines[head].matches(" {4,8}\\w[^=;]*\\(.*\\) \\{")) {
+                continue;
+            }
+            String indent = lines[head].substring(0, lines[head].indexOf(lines[head].strip()));
+            int end = head;
+            while (end < lines.length - 1 && !lines[end].equals(indent + "}")) {
+                end++;
+            }
+            check.holds("sixty lines at most: " + lines[head].strip(), end - head < 60);
         }
     }
 }

@@ -1,9 +1,13 @@
+import java.util.Set;
+import java.util.TreeSet;
+
 /** The promises one by one: ordinary inputs, the edges that the document names, wrong inputs. */
 public final class PromisesTest {
     private static final int UNKNOWN = -1000001, OUTSIDE = -1000002, ROOM = -1000003, NO = -1000004, NONE = -1;
     private static final int MIN = Integer.MIN_VALUE, MAX = Integer.MAX_VALUE;
     private static final Check check = new Check();
     private static String promise = "";
+    private static final Set<String> looked = new TreeSet<>();
 
     public static void main(String[] args) {
         newObject();
@@ -34,11 +38,20 @@ public final class PromisesTest {
         breaks();
         score();
         atFullSize();
+        allPromises();
         check.end();
     }
 
     private static void due(String call, int got, int want) {
         check.due(promise + ": " + call, got, want);
+        looked.add(promise.replaceAll(" .*", ""));
+    }
+
+    /** The document's last promise is the 24th; what is due at full size belongs to none alone. */
+    private static void allPromises() {
+        for (int number = 1; number <= 24; number++) {
+            check.holds("promise " + number + " was looked at", looked.contains("" + number));
+        }
     }
 
     private static WhyNots of(int... candidates) {
